@@ -1,0 +1,53 @@
+import java.util.Objects;
+
+/** Counts and prints the answers that are not as due, and gives the exit code in the end. */
+final class Check {
+    static final String IAE = "IllegalArgumentException";
+    static final String ISE = "IllegalStateException";
+    static final String IOOBE = "IndexOutOfBoundsException";
+    static final String UOE = "UnsupportedOperationException";
+    static final String ARITHMETIC = "ArithmeticException";
+
+    /** A call that a test makes; what it answers is compared, or what it throws. */
+    interface Call {
+        int answer();
+    }
+
+    private int checks;
+    private int wrong;
+
+    void due(String what, Object got, Object want) {
+        checks++;
+        if (!Objects.equals(got, want)) {
+            wrong++;
+            System.out.println(what + ": got " + got + ", due is " + want);
+        }
+    }
+
+    /** The exception must be of the very class: one that the JVM throws by itself is often below it. */
+    void dueThrows(String what, String want, Call call) {
+        due(what, thrownBy(call), want);
+    }
+
+    /** As dueThrows, and nothing that can be seen without the line is changed by the call. */
+    void dueThrowsAndKeeps(String what, String want, LineDebugger x, Call call) {
+        String before = View.of(x);
+        dueThrows(what, want, call);
+        due(what + " keeps the state", View.of(x), before);
+    }
+
+    static String thrownBy(Call call) {
+        try {
+            return "nothing, it answered " + call.answer();
+        } catch (RuntimeException e) {
+            return e.getClass().getSimpleName();
+        }
+    }
+
+    void end() {
+        System.out.println(checks + " checks, " + wrong + " wrong");
+        if (wrong != 0) {
+            System.exit(1);
+        }
+    }
+}
