@@ -24,21 +24,14 @@ final class Check {
         }
     }
 
-    /** The exception must be of the very class: one that the JVM throws by itself is often below it. */
     void dueThrows(String what, String want, Call call) {
-        due(what, thrownBy(call), want);
+        due(what, outcomeOf(call), want);
     }
 
-    /** As dueThrows, and nothing that can be seen without the line is changed by the call. */
-    void dueThrowsAndKeeps(String what, String want, LineDebugger x, Call call) {
-        String before = View.of(x);
-        dueThrows(what, want, call);
-        due(what + " keeps the state", View.of(x), before);
-    }
-
-    static String thrownBy(Call call) {
+    /** What the call answers or throws, by the very class: the JVM's own throws are often below it. */
+    static String outcomeOf(Call call) {
         try {
-            return "nothing, it answered " + call.answer();
+            return Integer.toString(call.answer());
         } catch (RuntimeException e) {
             return e.getClass().getSimpleName();
         }

@@ -5,9 +5,9 @@ final class View {
     static String of(LineDebugger x) {
         StringBuilder text = new StringBuilder();
         for (int what = 0; what <= 9; what++) {
-            text.append(x.count(what)).append(what == 9 ? " | " : " ");
+            text.append(x.count(what)).append(' ');
         }
-        for (int i = 0; i <= 22; i++) {
+        for (int i = 0; i <= 22; i = i == 7 ? 16 : i + 1) {
             text.append(x.byteAt(i)).append(' ');
         }
         for (int frame = 0; frame < x.count(7); frame++) {
