@@ -227,7 +227,7 @@ public final class LineDebugger {
         static final int CALL = 11;
         static final int JUMP_TO_REGISTER = 12;
         static final int JUMP_IF_NEGATIVE = 13;
-        static final int NO_OP = 14;
+        static final int NO_INSTRUCTION = 14;
         static final int BREAK = 15;
 
         final int[] words = new int[WORDS];
@@ -241,7 +241,7 @@ public final class LineDebugger {
 
         // A PC outside the memory faults just as OP 14 does, so that one stands for the other.
         int instructionAtPc() {
-            return isAddress(pc) ? words[pc] : NO_OP;
+            return isAddress(pc) ? words[pc] : NO_INSTRUCTION;
         }
 
         // Each case leaves before it changes anything when it is not a step of stop 1.
@@ -290,7 +290,7 @@ public final class LineDebugger {
                     }
                     registers[a] = b / c;
                     break;
-                case NO_OP:
+                case NO_INSTRUCTION:
                     return STOP_FAULT;
                 default:
                     registers[a] = calculate(instruction & 15, b, c, n);
@@ -310,6 +310,7 @@ public final class LineDebugger {
                     return b + c;
                 case SUBTRACT:
                     return b - c;
+                case MULTIPLY:
                 default:
                     return b * c;
             }
@@ -773,6 +774,7 @@ public final class LineDebugger {
                     return lower - upper;
                 case PRODUCT:
                     return lower * upper;
+                case QUOTIENT:
                 default:
                     if (upper == 0) {
                         throw new ArithmeticException("the divisor is 0");

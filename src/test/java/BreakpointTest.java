@@ -10,7 +10,8 @@ public final class BreakpointTest {
         stepsGoPast(check);
         aLoopComesBackToIt(check);
         programsOwnFault(check);
-        theInstructionThatStandsOnIt(check);
+        theWordUnderItIsDone(check);
+        anInstructionThatReachesItself(check);
         underABreak(check);
         check.end();
     }
@@ -109,21 +110,36 @@ public final class BreakpointTest {
         check.due("the word that was there comes back", Target.word(x, 3), 4000);
     }
 
-    private static void theInstructionThatStandsOnIt(Check check) {
+    private static void theWordUnderItIsDone(Check check) {
         LineDebugger x = new LineDebugger();
-        int loadItself = Target.instruction(7, 1, 0, 0, 0);
-        x.load(0, loadItself);
+        Target.loadFrom(x, 0, ADD_ONE, Target.HALT);
         Target.putBreakpoint(x, 0);
         x.load(0, Target.HALT);
-        check.due("the kept word is done, whatever lies there", Target.step(x), 1);
-        check.due("pc", x.count(8), 1);
+        check.due("whatever lies there", Target.step(x), 1);
+        check.due("register", Target.register(x, 0), 1);
+        Target.setPc(x, 0);
+        x.request(3, 0, Target.instruction(1, 0, 0, 0, 70));
+        check.due("a word written under it is done", Target.run(x, 5), 3);
+        check.due("register", Target.register(x, 0), 70);
+    }
+
+    /** The document leaves open whether the 15 is out of the way here: it is taken to lie there. */
+    private static void anInstructionThatReachesItself(Check check) {
+        LineDebugger x = new LineDebugger();
+        x.load(0, Target.instruction(7, 1, 0, 0, 0));
+        Target.putBreakpoint(x, 0);
+        check.due("a LOAD of itself", Target.step(x), 1);
+        check.due("sees the 15", Target.register(x, 1), 15);
 
         LineDebugger y = new LineDebugger();
-        Target.loadFrom(y, 0, ADD_ONE, Target.HALT);
+        int store = Target.instruction(8, 1, 0, 0, 0);
+        y.load(0, store);
         Target.putBreakpoint(y, 0);
-        y.request(3, 0, Target.instruction(1, 0, 0, 0, 70));
-        check.due("a word written under it is done", Target.step(y), 1);
-        check.due("register", Target.register(y, 0), 70);
+        check.due("a STORE to itself", Target.step(y), 1);
+        check.due("goes over it", Target.word(y, 0), store);
+        Target.setPc(y, 1);
+        y.load(1, Target.instruction(9, 0, 0, 0, 0));
+        check.due("so that a HALT lies there", Target.run(y, 9), 3);
     }
 
     private static void underABreak(Check check) {

@@ -33,7 +33,8 @@ final class Check {
         try {
             return Integer.toString(call.answer());
         } catch (RuntimeException e) {
-            return e.getClass().getSimpleName();
+            boolean thrownByTheJvm = "/ by zero".equals(e.getMessage());
+            return (thrownByTheJvm ? "the JVM's own " : "") + e.getClass().getSimpleName();
         }
     }
 

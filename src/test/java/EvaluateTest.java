@@ -51,6 +51,7 @@ public final class EvaluateTest {
         calculate(check, 6, -7, 2, -3);
         calculate(check, 6, 7, -2, -3);
         calculate(check, 6, 0, -2, 0);
+        calculate(check, 6, 9, 1, 9);
         calculate(check, 6, LOWEST, -1, LOWEST);
         check.due("a division by 0", worked(constant(5), constant(0), op(6)), Check.ARITHMETIC);
         check.due("0 by 0", worked(constant(0), constant(0), op(6)), Check.ARITHMETIC);
@@ -71,6 +72,7 @@ public final class EvaluateTest {
     private static void tooFew(Check check) {
         check.due("no operations", worked(), Check.ISE);
         check.due("empty in the end", worked(constant(1), op(9)), Check.ISE);
+        check.due("empty in between", worked(constant(1), op(9), constant(2)), "2");
         for (int operation : new int[] {2, 7, 9}) {
             check.due("none for " + operation, worked(op(operation), constant(1)), Check.ISE);
         }
