@@ -15,12 +15,19 @@ final class Check {
 
     private int checks;
     private int wrong;
+    private String sentence = "";
+
+    /** The words of the document that the checks from here on are about. */
+    void sentence(String words) {
+        sentence = "\"" + words + "\": ";
+        due("stands in the document", Document.says(words), true);
+    }
 
     void due(String what, Object got, Object want) {
         checks++;
         if (!Objects.equals(got, want)) {
             wrong++;
-            System.out.println(what + ": got " + got + ", due is " + want);
+            System.out.println(sentence + what + ": got " + got + ", due is " + want);
         }
     }
 

@@ -1,11 +1,13 @@
-/** Promise 7. */
+/** Promise 7, and what saved registers become (Terms: RULES). */
 public final class SaveTest {
     public static void main(String[] args) {
         Check check = new Check();
-        wrongSaves(check);
-        everyRegister(check);
-        inPlaceOfAnEarlierOne(check);
-        ofTheLatestRuleAlone(check);
+        noRule(check);
+        registerNot0To5Or7(check);
+        slotNot0To15(check);
+        registersAndSlots(check);
+        inPlaceOfWhatItSaid(check);
+        ofTheLatestRule(check);
         check.end();
     }
 
@@ -16,71 +18,116 @@ public final class SaveTest {
         };
     }
 
-    private static void wrongSaves(Check check) {
+    /** One rule, for PC 0; the words from 20 on are 500 and on, where the stack is. */
+    private static LineDebugger withRule() {
         LineDebugger x = new LineDebugger();
-        check.dueThrows("no rule", Check.ISE, save(x, 0, 0));
-        check.dueThrows("no rule, and wrong", Check.ISE, save(x, 6, 16));
-        x.rule(0, 0, 0, -1);
-        Target.setRegister(x, 7, 9);
-        for (int register : new int[] {-1, 6, 8, Integer.MIN_VALUE, Integer.MAX_VALUE}) {
-            check.dueThrows("register " + register, Check.IAE, save(x, register, 0));
+        for (int k = 0; k <= 15; k++) {
+            x.load(20 + k, 500 + k);
         }
-        for (int slot : new int[] {-1, 16, Integer.MIN_VALUE, Integer.MAX_VALUE}) {
-            check.dueThrows("slot " + slot, Check.IAE, save(x, 0, slot));
-        }
-        int requests = x.count(0);
-        x.unwind();
-        check.due("nothing is saved", x.count(0) - requests, 9);
-    }
-
-    private static void everyRegister(Check check) {
-        LineDebugger x = new LineDebugger();
-        x.rule(0, 0, 1, -1);
-        for (int register = 0; register < 8; register++) {
-            Target.setRegister(x, register, 40);
-            if (register != 6) {
-                x.save(register, register * 2);
-                x.load(40 + register * 2, 500 + register);
-            }
-        }
-        x.save(5, 15);
-        x.load(55, 505);
-        check.due("frames", x.unwind(), 2);
-        for (int register = 0; register < 8; register++) {
-            check.due("register " + register, x.frame(1, register), register == 6 ? 41 : 500 + register);
-            check.due("frame 0 has its own", x.frame(0, register), 40);
-        }
-        check.due("the return address is this frame's link", x.frame(1, 8), 40);
-    }
-
-    private static void inPlaceOfAnEarlierOne(Check check) {
-        LineDebugger x = new LineDebugger();
-        Target.loadFrom(x, 20, 1, 2, 3);
         Target.setRegister(x, 6, 20);
         Target.setRegister(x, 7, 50);
-        x.rule(0, 0, 0, -1);
-        x.save(3, 0);
-        x.save(3, 2);
-        int requests = x.count(0);
-        x.unwind();
-        check.due("the later slot", x.frame(1, 3), 3);
-        check.due("one word is asked for", x.count(0) - requests, 10);
+        x.rule(0, 0, 1, -1);
+        return x;
     }
 
-    private static void ofTheLatestRuleAlone(Check check) {
+    private static int wordsAskedFor(LineDebugger x) {
+        int requests = x.count(0);
+        x.unwind();
+        return x.count(0) - requests - 9;
+    }
+
+    private static void noRule(Check check) {
+        check.sentence("Throws IllegalStateException when there is no rule");
         LineDebugger x = new LineDebugger();
-        Target.loadFrom(x, 20, 1, 2, 3);
-        Target.setRegister(x, 6, 20);
-        Target.setRegister(x, 7, 1);
+        check.dueThrows("right", Check.ISE, save(x, 0, 0));
+        check.dueThrows("a wrong register", Check.ISE, save(x, 6, 0));
+        check.dueThrows("a wrong slot", Check.ISE, save(x, 0, 16));
+        check.dueThrows("a refused rule", Check.IAE, () -> x.rule(1, 0, 0, 0));
+        check.dueThrows("is no rule", Check.ISE, save(x, 0, 0));
         x.rule(0, 0, 0, -1);
+        Target.setRegister(x, 7, 9);
+        check.due("nothing was kept for the first", wordsAskedFor(x), 0);
+    }
+
+    private static void registerNot0To5Or7(Check check) {
+        check.sentence("IllegalArgumentException when register is not 0 .. 5 or 7");
+        LineDebugger x = withRule();
+        for (int register : new int[] {-1, 6, 8, 9, 256, Target.LOWEST, Target.HIGHEST}) {
+            check.dueThrows("register " + register, Check.IAE, save(x, register, 0));
+        }
+        check.due("nothing is saved", wordsAskedFor(x), 0);
+        check.due("return address", x.frame(1, 8), 50);
+        check.due("stack", x.frame(1, 6), 21);
+    }
+
+    private static void slotNot0To15(Check check) {
+        check.sentence("or slot not 0 .. 15");
+        LineDebugger x = withRule();
+        for (int slot : new int[] {-1, -2, 16, 256, Target.LOWEST, Target.HIGHEST}) {
+            check.dueThrows("slot " + slot, Check.IAE, save(x, 0, slot));
+        }
+        check.due("nothing is saved", wordsAskedFor(x), 0);
+        x.save(0, 3);
+        check.dueThrows("slot -1 takes no save back", Check.IAE, save(x, 0, -1));
+        check.due("one is saved", wordsAskedFor(x), 1);
+        check.due("as it was", x.frame(1, 0), 503);
+    }
+
+    private static void registersAndSlots(Check check) {
+        check.sentence("A rule can have SAVES: register r (0 .. 5 or 7) is at a slot.");
+        for (int register : new int[] {0, 1, 2, 3, 4, 5, 7}) {
+            for (int slot : new int[] {0, 1, 14, 15}) {
+                LineDebugger x = withRule();
+                x.save(register, slot);
+                check.due("words asked for", wordsAskedFor(x), 1);
+                for (int r = 0; r < 8; r++) {
+                    int here = r == 6 ? 21 : x.frame(0, r);
+                    check.due("register " + r, x.frame(1, r), r == register ? 500 + slot : here);
+                }
+            }
+        }
+        LineDebugger x = withRule();
+        for (int register : new int[] {7, 5, 3, 1, 0, 2, 4}) {
+            x.save(register, 2 * register);
+        }
+        check.due("all of them", wordsAskedFor(x), 7);
+        for (int register : new int[] {0, 1, 2, 3, 4, 5, 7}) {
+            check.due("register " + register, x.frame(1, register), 500 + 2 * register);
+        }
+        check.due("the return address is this frame's link", x.frame(1, 8), 50);
+    }
+
+    private static void inPlaceOfWhatItSaid(Check check) {
+        check.sentence("The latest rule saves a register (in place of what it said of it).");
+        LineDebugger x = withRule();
+        x.save(3, 0);
+        x.save(4, 1);
+        x.save(3, 2);
+        check.due("two words are asked for", wordsAskedFor(x), 2);
+        check.due("the later slot", x.frame(1, 3), 502);
+        check.due("another register's stays", x.frame(1, 4), 501);
+    }
+
+    private static void ofTheLatestRule(Check check) {
+        check.sentence("The latest rule saves a register");
+        LineDebugger x = withRule();
+        Target.setRegister(x, 7, 1);
         x.save(2, 1);
         x.rule(1, 1, 0, 2);
         x.save(4, 0);
         check.due("frames", x.unwind(), 3);
-        check.due("the first rule saves 2", x.frame(1, 2), 2);
+        check.due("the first rule saves 2", x.frame(1, 2), 501);
         check.due("and not 4", x.frame(1, 4), 0);
-        check.due("the second saves 4", x.frame(2, 4), 1);
-        check.due("and has 2 from below", x.frame(2, 2), 2);
-        check.due("pc", x.frame(2, 8), 3);
+        check.due("the second saves 4", x.frame(2, 4), 501);
+        check.due("and has 2 from below", x.frame(2, 2), 501);
+        check.due("pc", x.frame(2, 8), 503);
+        for (int i = 3; i <= 8; i++) {
+            x.rule(2, 2, 0, -1);
+        }
+        check.dueThrows("a ninth", Check.ISE, () -> x.rule(2, 2, 0, -1));
+        x.save(5, 0);
+        Target.setPc(x, 2);
+        check.due("the eighth's save is not the third's", wordsAskedFor(x), 2);
+        check.due("which the frame was unwound by", x.frame(1, 5), 0);
     }
 }

@@ -1,7 +1,11 @@
 /** Short names for what the tests do with the machine over the line. */
 final class Target {
-    static final int BREAK = 15;
+    static final int LOWEST = Integer.MIN_VALUE;
+    static final int HIGHEST = Integer.MAX_VALUE;
     static final int HALT = 0;
+    static final int NONE = 14;
+    static final int BREAK = 15;
+    static final int ADD_ONE = instruction(2, 0, 0, 0, 1);
 
     private Target() {}
 
@@ -9,16 +13,28 @@ final class Target {
         return op | a << 4 | b << 7 | c << 10 | n << 16;
     }
 
+    static int set(int a, int n) {
+        return instruction(1, a, 0, 0, n);
+    }
+
+    static int jump(int n) {
+        return instruction(9, 0, 0, 0, n);
+    }
+
     static int register(LineDebugger x, int r) {
         return x.request(0, r, 0);
     }
 
-    static void setRegister(LineDebugger x, int r, int v) {
-        x.request(1, r, v);
+    static int setRegister(LineDebugger x, int r, int v) {
+        return x.request(1, r, v);
     }
 
     static int word(LineDebugger x, int address) {
         return x.request(2, address, 0);
+    }
+
+    static int setWord(LineDebugger x, int address, int v) {
+        return x.request(3, address, v);
     }
 
     static int putBreakpoint(LineDebugger x, int address) {
@@ -41,8 +57,24 @@ final class Target {
         return x.request(8, 0, 0);
     }
 
-    static void setPc(LineDebugger x, int pc) {
-        x.request(9, 0, pc);
+    static int setPc(LineDebugger x, int pc) {
+        return x.request(9, 0, pc);
+    }
+
+    /**
+     * What lies in the memory itself, be it a breakpoint's 15: a LOAD at 60 sees it. (The tests
+     * that ask this have nothing at 60 and in register 5.)
+     */
+    static int inMemory(LineDebugger x, int address) {
+        int pc = x.count(8);
+        x.load(60, instruction(7, 5, 0, 0, address));
+        int base = register(x, 0);
+        setRegister(x, 0, 0);
+        setPc(x, 60);
+        step(x);
+        setRegister(x, 0, base);
+        setPc(x, pc);
+        return register(x, 5);
     }
 
     static void loadFrom(LineDebugger x, int address, int... words) {
