@@ -4,6 +4,7 @@ public final class BreakpointTest {
 
     public static void main(String[] args) {
         Check check = new Check();
+        putAtEveryWord(check);
         atMostFour(check);
         refusedWhenThereAreFour(check);
         refusedWhenThereAlready(check);
@@ -20,6 +21,20 @@ public final class BreakpointTest {
         theWordThatWasThereIsDone(check);
         anInstructionThatReachesItself(check);
         check.end();
+    }
+
+    private static void putAtEveryWord(Check check) {
+        check.sentence("4 a breakpoint is put at a");
+        LineDebugger x = new LineDebugger();
+        for (int address = 0; address < 64; address++) {
+            check.due("put at " + address, Target.putBreakpoint(x, address), 0);
+            check.due("one", x.count(6), 1);
+            check.due("away from " + address, Target.takeBreakpoint(x, address), 0);
+        }
+        for (int address : new int[] {64, 255, -1}) {
+            check.dueThrows("none at " + address, Check.IAE, () -> Target.putBreakpoint(x, address));
+        }
+        check.due("none", x.count(6), 0);
     }
 
     private static LineDebugger withFour() {

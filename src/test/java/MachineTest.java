@@ -27,6 +27,7 @@ public final class MachineTest {
         divisionsByZero(check);
         wordsAtNoAddress(check);
         otherwiseStop1(check);
+        everyOpIsKnown(check);
         check.end();
     }
 
@@ -288,7 +289,7 @@ public final class MachineTest {
     }
 
     private static void op14(Check check) {
-        check.sentence("14 is none.");
+        check.sentence("OP 14");
         stop(check, Target.NONE, 0, 0, 4);
         stop(check, Target.instruction(14, 3, 1, 2, 32767), 5, 6, 4);
         stop(check, 0xfffffffe, 0, 0, 4);
@@ -310,6 +311,15 @@ public final class MachineTest {
             stop(check, Target.instruction(op, 3, 1, 0, 0), 256, 0, 4);
             stop(check, Target.instruction(op, 3, 1, 0, 32767), HIGHEST, 0, 4);
             stop(check, Target.instruction(op, 3, 1, 0, -32768), LOWEST, 0, 4);
+        }
+    }
+
+    private static void everyOpIsKnown(Check check) {
+        check.sentence("0 HALT. 15 BREAK. 14 is none.");
+        int[] stops = {3, 1, 1, 1, 1, 1, 1, 1, 1, 1, 1, 1, 1, 1, 4, 2};
+        for (int op = 0; op <= 15; op++) {
+            LineDebugger x = machineAt5(Target.instruction(op, 3, 1, 2, 2), 20, 3);
+            check.due("op " + op, Target.step(x), stops[op]);
         }
     }
 

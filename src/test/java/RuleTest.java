@@ -6,6 +6,7 @@ public final class RuleTest {
     public static void main(String[] args) {
         Check check = new Check();
         howManyThereAre(check);
+        atMostEight(check);
         fromAboveTo(check);
         sizeNotZeroTo15(check);
         slotNotMinusOneTo15(check);
@@ -23,6 +24,23 @@ public final class RuleTest {
         for (int i = 1; i <= 8; i++) {
             check.due("rule " + i, x.rule(5, 5, i, i), i);
         }
+    }
+
+    private static void atMostEight(Check check) {
+        check.sentence("RULES say for PCs how frames are unwound, at most eight");
+        LineDebugger x = new LineDebugger();
+        for (int i = 0; i < 8; i++) {
+            x.rule(i, i, i + 1, -1);
+        }
+        Target.setRegister(x, 7, 100);
+        for (int pc = 0; pc < 8; pc++) {
+            Target.setPc(x, pc);
+            check.due("frames at " + pc, x.unwind(), 2);
+            check.due("by a rule of its own", x.frame(1, 6), pc + 1);
+        }
+        check.dueThrows("a ninth", Check.ISE, () -> x.rule(8, 8, 9, -1));
+        Target.setPc(x, 8);
+        check.due("no rule has 8", x.unwind(), 1);
     }
 
     private static void wrong(Check check, int from, int to, int size, int slot) {

@@ -5,6 +5,7 @@ public final class UnwindTest {
         frameZero(check);
         theNextFrame(check);
         orderOfRequests(check);
+        theNextFramesPc(check);
         theReturnAddressInRegister7(check);
         slots(check);
         stacksWrap(check);
@@ -14,6 +15,7 @@ public final class UnwindTest {
         thoseBeforeItWereAskedFor(check);
         seesUnderBreakpoints(check);
         fromWhatTheMachineHasNow(check);
+        howMany(check);
         givenUp(check);
         givenUpKeepsTheFrames(check);
         check.end();
@@ -88,6 +90,17 @@ public final class UnwindTest {
         check.due("its register 0", requestAt(12), Check.UOE + " 2 43");
         check.due("its register 1", requestAt(13), Check.UOE + " 2 42");
         check.due("and no more", requestAt(14), "3 2 42");
+    }
+
+    private static void theNextFramesPc(Check check) {
+        check.sentence("the next frame's PC is the return address");
+        for (int pc : new int[] {-1, 1, 63, 64, Target.LOWEST, Target.HIGHEST}) {
+            LineDebugger x = new LineDebugger();
+            x.rule(0, 0, 1, 2);
+            x.load(2, pc);
+            check.due("frames", x.unwind(), 2);
+            check.due("a word as it is", x.frame(1, 8), pc);
+        }
     }
 
     private static void theReturnAddressInRegister7(Check check) {
@@ -252,6 +265,18 @@ public final class UnwindTest {
         Target.setPc(x, 25);
         check.due("more again", x.unwind(), 3);
         row(check, x, 2, 100, 111, 1, 0, 0, 0, 45, 15, 4);
+    }
+
+    private static void howMany(Check check) {
+        check.sentence("How many frames.");
+        for (int frames = 1; frames <= 8; frames++) {
+            LineDebugger x = new LineDebugger();
+            x.rule(0, 0, 1, 0);
+            x.load(frames - 2, 1);
+            Target.setPc(x, frames == 1 ? 1 : 0);
+            check.due("frames", x.unwind(), frames);
+            check.due("count", x.count(7), frames);
+        }
     }
 
     private static void givenUp(Check check) {

@@ -16,7 +16,8 @@ final class View {
 
     static String ofFrames(LineDebugger x) {
         StringBuilder text = new StringBuilder();
-        for (int frame = 0; frame < x.count(7); frame++) {
+        int frames = x.count(7);
+        for (int frame = 0; frame < frames; frame++) {
             text.append("| ");
             for (int r = 0; r <= 8; r++) {
                 text.append(x.frame(frame, r)).append(' ');
